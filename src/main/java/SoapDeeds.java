@@ -17,6 +17,8 @@ public final class SoapDeeds {
     private static final int RENT_MOST = 999;
     private static final int FILM_MOST = 99;
     private static final int SIZE_MOST = 9;
+    private static final int HUE_MOST = 9;
+    private static final int HUNDRED = 100;
     private static final int WAYS = 4;
     private static final int OUTSIDE = 255;
 
@@ -38,8 +40,6 @@ public final class SoapDeeds {
     private final Images images = new Images();
     private final int[] refusals = new int[6];
     private Plan plan = new Plan();
-    // A text is read into the spare plan, so that all stays when it has a FAULT.
-    private Plan spare = new Plan();
     private int chain = 1;
 
     public SoapDeeds() {
@@ -67,14 +67,12 @@ public final class SoapDeeds {
     }
 
     public int room() {
-        boolean well = parser.read(tape, spare);
+        boolean well = parser.read(tape);
         tape.length = 0;
         if (!well) {
             return refusedNumber(OF_ROOM);
         }
-        Plan old = plan;
-        plan = spare;
-        spare = old;
+        plan = parser.handOver(plan);
         scene.begin(plan);
         history.clear();
         seer.forget();
@@ -99,11 +97,11 @@ public final class SoapDeeds {
             case 1:
                 return plan.rows;
             case 2:
-                return plan.count[DOOR];
+                return plan.many(DOOR);
             case 3:
-                return plan.count[HEIR];
+                return plan.many(HEIR);
             case 4:
-                return plan.count[BUBBLE];
+                return plan.many(BUBBLE);
             case 5:
                 return scene.second;
             case 6:
@@ -129,7 +127,7 @@ public final class SoapDeeds {
         if (k < 0 || k >= Tokens.NAME_MOST || !plan.isThere(kind, which)) {
             return NONE;
         }
-        return plan.name[EACH * kind + which] >> Tokens.LETTER_BITS * k & Tokens.LETTER_MASK;
+        return plan.nameOf(kind, which) >> Tokens.LETTER_BITS * k & Tokens.LETTER_MASK;
     }
 
     public int lamp(int what) {
@@ -143,7 +141,7 @@ public final class SoapDeeds {
         switch (what) {
             case 0:
             case 1:
-                return placePart(plan.cell[door], what);
+                return placePart(plan.cellOf(DOOR, door), what);
             case 2:
                 return plan.way[door];
             case 3:
@@ -222,7 +220,7 @@ public final class SoapDeeds {
         if (!plan.isThere(BUBBLE, bubble) || !canPass(n, 0, RUN_MOST)) {
             return NONE;
         }
-        Scene then = lookAhead().after(n);
+        Scene then = seer.after(plan, scene, n);
         return what == 2 ? then.film[bubble] : placePart(then.bubbleCell[bubble], what);
     }
 
@@ -230,28 +228,28 @@ public final class SoapDeeds {
         if (!floats(bubble)) {
             return NONE;
         }
-        return lookAhead().secondOfGoing(bubble, Math.min(RUN_MOST, secondsLeft()));
+        return seer.secondOfGoing(plan, scene, bubble);
     }
 
     public int owner(int deed, int n) {
         if (!plan.isThere(BUBBLE, deed) || !canPass(n, 0, RUN_MOST)) {
             return NONE;
         }
-        return lookAhead().after(n).owner[deed];
+        return seer.after(plan, scene, n).owner[deed];
     }
 
     public int doors(int deed, int heir, int n) {
         if (!plan.isThere(BUBBLE, deed) || !plan.isThere(HEIR, heir) || !canPass(n, 0, PLAN_MOST)) {
             return NONE;
         }
-        return lookAhead().fewestDoors(deed, heir, n);
+        return seer.fewestDoors(plan, scene, deed, heir, n);
     }
 
     public int stand(int heir, int n, int what) {
         if (!plan.isThere(HEIR, heir) || !canPass(n, 1, PLAN_MOST)) {
             return NONE;
         }
-        lookAhead().findStand(heir, n);
+        seer.findStand(plan, scene, heir, n);
         return what == 2 ? seer.bestWorth : placePart(seer.bestCell, what);
     }
 
@@ -259,7 +257,7 @@ public final class SoapDeeds {
         if (plan.columns == 0 || !canPass(n, 1, PLAN_MOST)) {
             return NONE;
         }
-        lookAhead().findShine(n);
+        seer.findShine(plan, scene, n);
         return what == 2 ? seer.bestWorth : placePart(seer.bestCell, what);
     }
 
@@ -267,14 +265,14 @@ public final class SoapDeeds {
         if (!floats(bubble) || !canPass(n, 1, PLAN_MOST)) {
             return NONE;
         }
-        return lookAhead().leastFilm(bubble, n);
+        return seer.leastFilm(plan, scene, bubble, n);
     }
 
     public int odds(int deed, int heir) {
         if (!plan.isThere(BUBBLE, deed) || !plan.isThere(HEIR, heir) || !canPass(1, 1, 1)) {
             return NONE;
         }
-        return lookAhead().rowsToOwn(deed, heir);
+        return seer.rowsToOwn(plan, scene, deed, heir);
     }
 
     public int feel() {
@@ -287,15 +285,12 @@ public final class SoapDeeds {
         if (!floats(bubble)) {
             return NONE;
         }
-        int most = lookAhead().findFrom(bubble);
-        if (k == NONE) {
-            return most;
-        }
-        return k >= 0 && k < most ? seer.fromCell[k] : NONE;
+        seer.findFrom(plan, scene, bubble);
+        return k == NONE ? seer.fromCount : seer.fromAt(k);
     }
 
     public int tells(int bubble, int what) {
-        if (!floats(bubble) || what < 0 || what > 1 || !lookAhead().findTelling(bubble)) {
+        if (!floats(bubble) || what < 0 || what > 1 || !seer.findTelling(plan, scene, bubble)) {
             return NONE;
         }
         return what == 0 ? seer.tellingSecond : seer.tellingLeft;
@@ -411,7 +406,7 @@ public final class SoapDeeds {
 
     private int ownedDeeds() {
         int owned = 0;
-        for (int deed = 0; deed < plan.count[BUBBLE]; deed++) {
+        for (int deed = 0; deed < plan.many(BUBBLE); deed++) {
             owned += scene.owner[deed] == NONE ? 0 : 1;
         }
         return owned;
@@ -419,27 +414,18 @@ public final class SoapDeeds {
 
     private int lostDeeds() {
         int floating = 0;
-        for (int bubble = 0; bubble < plan.count[BUBBLE]; bubble++) {
+        for (int bubble = 0; bubble < plan.many(BUBBLE); bubble++) {
             floating += Integer.bitCount(scene.deeds[bubble]);
         }
-        return plan.count[BUBBLE] - floating - ownedDeeds();
+        return plan.many(BUBBLE) - floating - ownedDeeds();
     }
 
     private boolean floats(int bubble) {
         return plan.isThere(BUBBLE, bubble) && scene.bubbleCell[bubble] != NONE;
     }
 
-    private int secondsLeft() {
-        return LAST_SECOND - scene.second;
-    }
-
     private boolean canPass(int n, int least, int most) {
-        return n >= least && n <= most && n <= secondsLeft();
-    }
-
-    private Seer lookAhead() {
-        seer.look(plan, scene, works);
-        return seer;
+        return n >= least && n <= most && n <= LAST_SECOND - scene.second;
     }
 
     /** How many BURST, or how many breaths there were if it goes by the seed. */
@@ -452,10 +438,10 @@ public final class SoapDeeds {
         int breaths = 0;
         int burst = 0;
         for (int k = 0; k < n; k++) {
-            boolean breathes = bySeed && draw(100) < plan.breath;
+            boolean breathes = bySeed && draw(HUNDRED) < plan.breath;
             int way = breathes ? draw(WAYS) : NONE;
             breaths += breathes ? 1 : 0;
-            burst += works.pass(scene, way);
+            burst += works.pass(plan, scene, way);
         }
         return bySeed ? breaths : burst;
     }
@@ -484,62 +470,66 @@ public final class SoapDeeds {
         }
     }
 
-    /** The text's words, numbers and signs, one at a time. */
+    /** A text cut into words, numbers and signs, which are then gone through one by one. */
     private static final class Tokens {
-        static final int END = 0;
-        static final int WORD = 1;
-        static final int NUMBER = 2;
-        static final int SIGN = 3;
+        // What a token is, in one number: a NUMBER is itself; a sign is its byte on top of FIRST_SIGN;
+        // an OWN WORD is one of those below; a NAME is its letters, 5 bits each, on top of FIRST_NAME.
+        static final int END = -2;
         // What may stand nowhere (a 7th letter, a 5th digit, no blank): nothing that is asked for is like it.
-        static final int BAD = 4;
+        private static final int BAD = -1;
+        private static final int FIRST_SIGN = 10000;
+        private static final int FIRST_OWN = 20000;
+        private static final int FIRST_NAME = 1 << 30;
 
-        static final int ROOM = 0;
-        static final int BY = 1;
-        static final int LAMP = 2;
-        static final int A_DOOR = 3;
-        static final int AT = 4;
-        static final int BLOWS = 5;
-        static final int REACH = 6;
-        static final int OPEN = 7;
-        static final int A_HEIR = 8;
-        static final int TALL = 9;
-        static final int A_BUBBLE = 10;
-        static final int FILM = 11;
-        static final int SIZE = 12;
-        static final int THINS = 13;
-        static final int BURSTS = 14;
-        static final int HUE = 15;
-        static final int BREATH = 16;
-        static final int SECOND = 17;
-        static final int DRIFT = 18;
-        static final int DEEDS = 19;
-        static final int IF = 20;
-        static final int OR = 21;
-        static final int AND = 22;
-        static final int NOT = 23;
-        static final int ALL = 24;
-        static final int MIN = 25;
-        static final int MAX = 26;
+        static final int ROOM = FIRST_OWN;
+        static final int BY = FIRST_OWN + 1;
+        static final int LAMP = FIRST_OWN + 2;
+        static final int A_DOOR = FIRST_OWN + 3;
+        static final int AT = FIRST_OWN + 4;
+        static final int BLOWS = FIRST_OWN + 5;
+        static final int REACH = FIRST_OWN + 6;
+        static final int OPEN = FIRST_OWN + 7;
+        static final int A_HEIR = FIRST_OWN + 8;
+        static final int TALL = FIRST_OWN + 9;
+        static final int A_BUBBLE = FIRST_OWN + 10;
+        static final int FILM = FIRST_OWN + 11;
+        static final int SIZE = FIRST_OWN + 12;
+        static final int THINS = FIRST_OWN + 13;
+        static final int BURSTS = FIRST_OWN + 14;
+        static final int HUE = FIRST_OWN + 15;
+        static final int BREATH = FIRST_OWN + 16;
+        static final int SECOND = FIRST_OWN + 17;
+        static final int DRIFT = FIRST_OWN + 18;
+        static final int DEEDS = FIRST_OWN + 19;
+        static final int IF = FIRST_OWN + 20;
+        static final int OR = FIRST_OWN + 21;
+        static final int AND = FIRST_OWN + 22;
+        static final int NOT = FIRST_OWN + 23;
+        static final int ALL = FIRST_OWN + 24;
+        static final int MIN = FIRST_OWN + 25;
+        static final int MAX = FIRST_OWN + 26;
         private static final int OWN_WORDS = 27;
         // In the order of their numbers above.
         private static final String OWN =
             "room by lamp door at blows reach open heir tall bubble film size thins bursts hue breath second drift deeds if or and not all min max";
 
-        // A word is one number, its first letter in the lowest bits.
         static final int NAME_MOST = 6;
         static final int LETTER_BITS = 5;
         static final int LETTER_MASK = 31;
         private static final int DIGITS_MOST = 4;
 
-        private final int[] ownWord = new int[OWN_WORDS];
-        private Tape text = null;
+        private final int[] ownLetters = new int[OWN_WORDS];
+        private final int[] codes = new int[TAPE_MOST];
+        private final int[] starts = new int[TAPE_MOST];
+        private int count = 0;
+        private int textLength = 0;
+        private int badPlace = NONE;
         private int at = 0;
-        int kind = END;
+        private int scanned = 0;
+        int code = END;
         int start = 0;
         // Where FAULT 1 is if this may not stand here: the start, but for a letter or digit too many.
         int place = 0;
-        int value = 0;
-        int own = NONE;
 
         Tokens() {
             int word = 0;
@@ -550,95 +540,116 @@ public final class SoapDeeds {
                     word++;
                     letters = 0;
                 } else {
-                    ownWord[word] |= letterBits(c, letters);
+                    ownLetters[word] |= letterBits(c, letters);
                     letters++;
                 }
             }
         }
 
-        void open(Tape tape) {
-            text = tape;
-            at = 0;
-            kind = END;
+        /** Cuts the text up to its end, or up to the first that may stand nowhere. */
+        void cut(Tape text) {
+            count = 0;
+            textLength = text.length;
+            scanned = 0;
+            int last = END;
+            boolean needsBlank = false;
+            for (int k = 0; k < TAPE_MOST && scanned < textLength && last != BAD; k++) {
+                int c = text.at(scanned);
+                if (c == 10 || c == 32) {
+                    scanned++;
+                    needsBlank = false;
+                } else {
+                    int from = scanned;
+                    last = cutOne(text, c, needsBlank);
+                    keepToken(last, from);
+                    needsBlank = last < FIRST_SIGN || last >= FIRST_OWN;
+                }
+            }
+            at = -1;
             next();
         }
 
+        private int cutOne(Tape text, int c, boolean needsBlank) {
+            boolean isWord = isLetter(c);
+            if (needsBlank && (isWord || isDigit(c))) {
+                badPlace = scanned;
+                return BAD;
+            }
+            if (isWord) {
+                return cutWord(text);
+            }
+            if (isDigit(c)) {
+                return cutNumber(text);
+            }
+            scanned++;
+            return FIRST_SIGN + c;
+        }
+
+        private int cutWord(Tape text) {
+            int letters = 0;
+            for (int k = 0; k < NAME_MOST && isLetter(text.at(scanned)); k++) {
+                letters |= letterBits(text.at(scanned), k);
+                scanned++;
+            }
+            if (isLetter(text.at(scanned))) {
+                badPlace = scanned;
+                return BAD;
+            }
+            for (int k = 0; k < OWN_WORDS; k++) {
+                if (ownLetters[k] == letters) {
+                    return FIRST_OWN + k;
+                }
+            }
+            return FIRST_NAME + letters;
+        }
+
+        private int cutNumber(Tape text) {
+            int number = 0;
+            for (int k = 0; k < DIGITS_MOST && isDigit(text.at(scanned)); k++) {
+                number = 10 * number + text.at(scanned) - '0';
+                scanned++;
+            }
+            if (isDigit(text.at(scanned))) {
+                badPlace = scanned;
+                return BAD;
+            }
+            return number;
+        }
+
+        private void keepToken(int token, int from) {
+            if (count >= 0 && count < codes.length) {
+                codes[count] = token;
+                starts[count] = from;
+                count++;
+            }
+        }
+
+        /** Goes on to the next token; behind the last one is END. */
         void next() {
-            boolean needsBlank = kind == WORD || kind == NUMBER;
-            int before = at;
-            skipBlanks();
-            start = at;
-            place = at;
-            value = 0;
-            own = NONE;
-            int c = byteAt(at);
-            if (c == NONE) {
-                kind = END;
-            } else if (isLetter(c)) {
-                takeWord();
-            } else if (isDigit(c)) {
-                takeNumber();
-            } else {
-                kind = SIGN;
-                value = c;
+            if (at < count) {
                 at++;
             }
-            if (needsBlank && before == start && kind != SIGN && kind != END) {
-                spoil(start);
-            }
+            boolean isThere = at >= 0 && at < count && at < codes.length;
+            code = isThere ? codes[at] : END;
+            start = isThere ? starts[at] : textLength;
+            place = code == BAD ? badPlace : start;
         }
 
         boolean isSign(int sign) {
-            return kind == SIGN && value == sign;
+            return code == FIRST_SIGN + sign;
         }
 
-        private void skipBlanks() {
-            for (int k = at; k < TAPE_MOST && (byteAt(k) == 10 || byteAt(k) == 32); k++) {
-                at = k + 1;
-            }
+        boolean isNumber() {
+            return code >= 0 && code < FIRST_SIGN;
         }
 
-        private void takeWord() {
-            kind = WORD;
-            for (int letters = 0; letters < NAME_MOST && isLetter(byteAt(at)); letters++) {
-                value |= letterBits(byteAt(at), letters);
-                at++;
-            }
-            if (isLetter(byteAt(at))) {
-                spoil(at);
-            } else {
-                own = numberOfOwn(value);
-            }
+        boolean isName() {
+            return code >= FIRST_NAME;
         }
 
-        private void takeNumber() {
-            kind = NUMBER;
-            for (int digits = 0; digits < DIGITS_MOST && isDigit(byteAt(at)); digits++) {
-                value = 10 * value + byteAt(at) - '0';
-                at++;
-            }
-            if (isDigit(byteAt(at))) {
-                spoil(at);
-            }
-        }
-
-        private void spoil(int where) {
-            kind = BAD;
-            place = where;
-            own = NONE;
-        }
-
-        private int numberOfOwn(int word) {
-            for (int k = 0; k < OWN_WORDS; k++) {
-                if (ownWord[k] == word) {
-                    return k;
-                }
-            }
-            return NONE;
-        }
-
-        private int byteAt(int k) {
-            return text == null ? NONE : text.at(k);
+        /** The letters of a NAME. */
+        int letters() {
+            return code - FIRST_NAME;
         }
 
         private static int letterBits(int c, int k) {
@@ -739,27 +750,23 @@ public final class SoapDeeds {
             }
             top = 0;
             for (int k = first[rule]; k < behind[rule] && k < codes.length; k++) {
-                work(codes[k]);
+                int code = codes[k];
+                if (code >= 0) {
+                    push(code);
+                } else if (code >= DEEDS) {
+                    push(quality[FILM - code]);
+                } else if (code == NOT) {
+                    push(1 - pop());
+                } else if (code == CHOOSE) {
+                    int no = pop();
+                    int yes = pop();
+                    push(pop() != 0 ? yes : no);
+                } else {
+                    int right = pop();
+                    push(joined(code, pop(), right));
+                }
             }
             return pop();
-        }
-
-        private void work(int code) {
-            if (code >= 0) {
-                push(code);
-            } else if (code >= DEEDS) {
-                push(quality[FILM - code]);
-            } else if (code == NOT) {
-                push(1 - pop());
-            } else if (code == CHOOSE) {
-                int second = pop();
-                int first = pop();
-                push(pop() != 0 ? first : second);
-            } else {
-                int right = pop();
-                int left = pop();
-                push(joined(code, left, right));
-            }
         }
 
         private static int joined(int code, int left, int right) {
@@ -773,7 +780,7 @@ public final class SoapDeeds {
                 case SHARE:
                     return right == 0 ? 0 : cut(Math.floorDiv(left, right));
                 case REST:
-                    return right == 0 ? 0 : cut(Math.floorMod(left, right));
+                    return right == 0 ? 0 : Math.floorMod(left, right);
                 case LEAST:
                     return Math.min(left, right);
                 case MOST:
@@ -794,7 +801,7 @@ public final class SoapDeeds {
         }
 
         private static int cut(long result) {
-            return (int) Math.max(-RESULT_MOST, Math.min(RESULT_MOST, result));
+            return (int) (result > RESULT_MOST ? RESULT_MOST : result < -RESULT_MOST ? -RESULT_MOST : result);
         }
 
         private void push(int value) {
@@ -825,9 +832,9 @@ public final class SoapDeeds {
         int breath = 0;
         int open = 0;
         // DOORS, HEIRS, BUBBLES: those of a sort stand EACH behind those of the one ahead.
-        final int[] count = new int[SORTS];
-        final int[] name = new int[SORTS * EACH];
-        final int[] cell = new int[SORTS * EACH];
+        private final int[] count = new int[SORTS];
+        private final int[] name = new int[SORTS * EACH];
+        private final int[] cell = new int[SORTS * EACH];
         final int[] way = new int[EACH];
         final int[] reach = new int[EACH];
         final int[] tall = new int[EACH];
@@ -851,11 +858,16 @@ public final class SoapDeeds {
         }
 
         boolean isThere(int sort, int which) {
-            return sort >= 0 && sort < SORTS && which >= 0 && which < EACH && which < count[sort];
+            return which >= 0 && which < EACH && which < many(sort);
+        }
+
+        /** How many of a sort there are: EACH at most, since no more are added. */
+        int many(int sort) {
+            return sort >= 0 && sort < SORTS ? count[sort] : 0;
         }
 
         boolean isFull(int sort) {
-            return sort < 0 || sort >= SORTS || count[sort] >= EACH;
+            return sort < 0 || sort >= SORTS || count[sort] < 0 || count[sort] >= EACH;
         }
 
         /** Its number; the sort has room for it. */
@@ -870,8 +882,17 @@ public final class SoapDeeds {
             return which;
         }
 
+        int nameOf(int sort, int which) {
+            return isThere(sort, which) ? name[EACH * sort + which] : NONE;
+        }
+
+        /** Where it is at first. */
+        int cellOf(int sort, int which) {
+            return isThere(sort, which) ? cell[EACH * sort + which] : NONE;
+        }
+
         int withName(int sort, int itsName) {
-            for (int which = 0; isThere(sort, which); which++) {
+            for (int which = 0; which < many(sort); which++) {
                 if (name[EACH * sort + which] == itsName) {
                     return which;
                 }
@@ -879,8 +900,13 @@ public final class SoapDeeds {
             return NONE;
         }
 
+        boolean isNamed(int itsName) {
+            return withName(DOOR, itsName) != NONE || withName(HEIR, itsName) != NONE
+                || withName(BUBBLE, itsName) != NONE;
+        }
+
         boolean isTaken(int sort, int itsCell) {
-            for (int which = 0; isThere(sort, which); which++) {
+            for (int which = 0; which < many(sort); which++) {
                 if (cell[EACH * sort + which] == itsCell) {
                     return true;
                 }
@@ -891,6 +917,10 @@ public final class SoapDeeds {
         int cellAt(int column, int row) {
             boolean inside = column >= 0 && column < columns && row >= 0 && row < rows;
             return inside ? WIDE * row + column : NONE;
+        }
+
+        boolean isCell(int itsCell) {
+            return itsCell >= 0 && cellAt(itsCell % WIDE, itsCell / WIDE) != NONE;
         }
 
         /** The CELL one on along a WAY; NONE if it is not in the room, or without a WAY. */
@@ -914,82 +944,86 @@ public final class SoapDeeds {
         private static final int OPEN_MOST = 7;
 
         private final Tokens tokens = new Tokens();
-        private Plan plan = null;
-        private Rules rules = null;
+        private Plan plan = new Plan();
         private int ruleRead = NONE;
         int fault = 0;
         int place = NONE;
 
-        boolean read(Tape tape, Plan into) {
-            if (tape == null || into == null) {
-                return false;
-            }
+        /** The plan that was read; the old one is written over by the next text. */
+        Plan handOver(Plan old) {
+            Plan read = plan;
+            plan = old;
+            return read;
+        }
+
+        /** Whether the text is a ROOM; the plan in use is not the one that is written here, so all stays. */
+        boolean read(Tape tape) {
             fault = 0;
             place = NONE;
-            plan = into;
-            rules = into.rules;
             plan.clear();
-            tokens.open(tape);
+            tokens.cut(tape);
             boolean well = true;
-            for (int k = 0; well && k < TAPE_MOST && tokens.kind != Tokens.END; k++) {
+            for (int k = 0; well && k < TAPE_MOST && tokens.code != Tokens.END; k++) {
                 well = readStatement();
             }
             return well && (plan.statements > 0 || refuse(WRONG));
         }
 
         private boolean refuse(int kind) {
-            return refuseAt(kind, tokens.place);
-        }
-
-        private boolean refuseAt(int kind, int where) {
             fault = kind;
-            place = where;
+            place = tokens.place;
             return false;
         }
 
-        private int refuseNumber(int kind) {
-            refuse(kind);
-            return NONE;
-        }
-
         private boolean readStatement() {
-            if (plan.statements >= STATEMENTS_MOST) {
-                return refuseAt(TOO_MANY, tokens.start);
-            }
-            boolean isRoom = tokens.own == Tokens.ROOM;
             boolean isFirst = plan.statements == 0;
-            if (isRoom != isFirst || !readBody(tokens.own)) {
-                return fault != 0 ? false : refuse(WRONG);
+            if (plan.statements >= STATEMENTS_MOST) {
+                refuse(TOO_MANY);
+                // The 81st counts from its first byte, even if a letter of it is one too many.
+                place = tokens.start;
+                return false;
+            }
+            if (isFirst != (tokens.code == Tokens.ROOM)) {
+                return refuse(WRONG);
+            }
+            boolean well;
+            switch (tokens.code) {
+                case Tokens.ROOM:
+                    well = readWalls();
+                    break;
+                case Tokens.LAMP:
+                    well = readLamp();
+                    break;
+                case Tokens.A_DOOR:
+                    well = readDoor();
+                    break;
+                case Tokens.OPEN:
+                    well = readOpen();
+                    break;
+                case Tokens.A_HEIR:
+                    well = readHeir();
+                    break;
+                case Tokens.A_BUBBLE:
+                    well = readBubble();
+                    break;
+                case Tokens.THINS:
+                    well = readRule(Rules.THINS);
+                    break;
+                case Tokens.BURSTS:
+                    well = readRule(Rules.BURSTS);
+                    break;
+                case Tokens.HUE:
+                    well = readRule(Rules.HUE);
+                    break;
+                case Tokens.BREATH:
+                    well = readBreath();
+                    break;
+                default:
+                    well = refuse(WRONG);
+                    break;
             }
             plan.statements++;
-            return readSign(';');
-        }
-
-        private boolean readBody(int word) {
-            switch (word) {
-                case Tokens.ROOM:
-                    return readWalls();
-                case Tokens.LAMP:
-                    return readLamp();
-                case Tokens.A_DOOR:
-                    return readDoor();
-                case Tokens.OPEN:
-                    return readOpen();
-                case Tokens.A_HEIR:
-                    return readHeir();
-                case Tokens.A_BUBBLE:
-                    return readBubble();
-                case Tokens.THINS:
-                    return readRule(Rules.THINS);
-                case Tokens.BURSTS:
-                    return readRule(Rules.BURSTS);
-                case Tokens.HUE:
-                    return readRule(Rules.HUE);
-                case Tokens.BREATH:
-                    return readBreath();
-                default:
-                    return refuse(WRONG);
-            }
+            return well && readSign(';');
         }
 
         private boolean readWalls() {
@@ -1007,7 +1041,7 @@ public final class SoapDeeds {
 
         private boolean readBreath() {
             tokens.next();
-            plan.breath = readNumber(0, 100);
+            plan.breath = readNumber(0, HUNDRED);
             return plan.breath != NONE;
         }
 
@@ -1031,10 +1065,10 @@ public final class SoapDeeds {
 
         private boolean readOpen() {
             tokens.next();
-            if (!isName()) {
+            if (!tokens.isName()) {
                 return refuse(WRONG);
             }
-            int door = plan.withName(DOOR, tokens.value);
+            int door = plan.withName(DOOR, tokens.letters());
             if (door == NONE || (plan.open >> door & 1) == 1) {
                 return refuse(NO_SHUT_DOOR);
             }
@@ -1077,14 +1111,14 @@ public final class SoapDeeds {
         }
 
         private boolean readRule(int rule) {
-            if (rules.isTold(rule)) {
+            if (plan.rules.isTold(rule)) {
                 return refuse(TOO_MANY);
             }
             tokens.next();
             ruleRead = rule;
-            rules.begin(rule);
+            plan.rules.begin(rule);
             boolean well = rule == Rules.BURSTS ? readTest(0) : readSum(0);
-            rules.finish(rule);
+            plan.rules.finish(rule);
             return well;
         }
 
@@ -1097,37 +1131,33 @@ public final class SoapDeeds {
         }
 
         private boolean readWord(int own) {
-            if (tokens.own != own) {
+            if (tokens.code != own) {
                 return refuse(WRONG);
             }
             tokens.next();
             return true;
         }
 
-        private boolean isName() {
-            return tokens.kind == Tokens.WORD && tokens.own == NONE;
-        }
-
         private int readNewName() {
-            if (!isName()) {
-                return refuseNumber(WRONG);
-            }
-            int name = tokens.value;
-            for (int sort = 0; sort < SORTS; sort++) {
-                if (plan.withName(sort, name) != NONE) {
-                    return refuseNumber(NAMED_ALREADY);
-                }
+            boolean isName = tokens.isName();
+            int name = tokens.letters();
+            boolean isOld = isName && plan.isNamed(name);
+            if (!isName || isOld) {
+                refuse(isOld ? NAMED_ALREADY : WRONG);
+                return NONE;
             }
             tokens.next();
             return name;
         }
 
+        /** The NUMBER that stands here, without going on; NONE if none may. */
         private int numberHere(int least, int most) {
-            if (tokens.kind != Tokens.NUMBER) {
-                return refuseNumber(WRONG);
+            boolean isNumber = tokens.isNumber();
+            if (!isNumber || tokens.code < least || tokens.code > most) {
+                refuse(isNumber ? CANNOT_BE : WRONG);
+                return NONE;
             }
-            boolean canBe = tokens.value >= least && tokens.value <= most;
-            return canBe ? tokens.value : refuseNumber(CANNOT_BE);
+            return tokens.code;
         }
 
         private int readNumber(int least, int most) {
@@ -1151,7 +1181,8 @@ public final class SoapDeeds {
             }
             int cell = plan.cellAt(column, row);
             if (plan.isTaken(sort, cell)) {
-                return refuseNumber(CANNOT_BE);
+                refuse(CANNOT_BE);
+                return NONE;
             }
             tokens.next();
             return cell;
@@ -1163,7 +1194,7 @@ public final class SoapDeeds {
                 int code = sumCode();
                 tokens.next();
                 well = readProduct(open);
-                rules.add(code);
+                plan.rules.add(code);
             }
             return well;
         }
@@ -1178,7 +1209,7 @@ public final class SoapDeeds {
                 int code = productCode();
                 tokens.next();
                 well = readPart(open);
-                rules.add(code);
+                plan.rules.add(code);
             }
             return well;
         }
@@ -1191,15 +1222,15 @@ public final class SoapDeeds {
         }
 
         private boolean readPart(int open) {
-            if (tokens.kind == Tokens.NUMBER) {
-                rules.add(tokens.value);
+            if (tokens.isNumber()) {
+                plan.rules.add(tokens.code);
                 tokens.next();
                 return true;
             }
             if (tokens.isSign('(')) {
                 return readOpening('(', open) && readSum(open + 1) && readSign(')');
             }
-            switch (tokens.own) {
+            switch (tokens.code) {
                 case Tokens.MIN:
                     return readPair(Rules.LEAST, open);
                 case Tokens.MAX:
@@ -1222,7 +1253,7 @@ public final class SoapDeeds {
             tokens.next();
             boolean well = readOpening('(', open) && readSum(open + 1) && readSign(',')
                 && readSum(open + 1) && readSign(')');
-            rules.add(code);
+            plan.rules.add(code);
             return well;
         }
 
@@ -1230,7 +1261,7 @@ public final class SoapDeeds {
             tokens.next();
             boolean well = readOpening('(', open) && readTest(open + 1) && readSign(',')
                 && readSum(open + 1) && readSign(',') && readSum(open + 1) && readSign(')');
-            rules.add(Rules.CHOOSE);
+            plan.rules.add(Rules.CHOOSE);
             return well;
         }
 
@@ -1239,13 +1270,13 @@ public final class SoapDeeds {
             if (code == 0) {
                 return refuse(WRONG);
             }
-            rules.add(code);
+            plan.rules.add(code);
             tokens.next();
             return true;
         }
 
         private int qualityCode() {
-            switch (tokens.own) {
+            switch (tokens.code) {
                 case Tokens.FILM:
                     return Rules.FILM;
                 case Tokens.SIZE:
@@ -1265,20 +1296,20 @@ public final class SoapDeeds {
 
         private boolean readTest(int open) {
             boolean well = readBoth(open);
-            for (int k = 0; well && k < TAPE_MOST && tokens.own == Tokens.OR; k++) {
+            for (int k = 0; well && k < TAPE_MOST && tokens.code == Tokens.OR; k++) {
                 tokens.next();
                 well = readBoth(open);
-                rules.add(Rules.EITHER);
+                plan.rules.add(Rules.EITHER);
             }
             return well;
         }
 
         private boolean readBoth(int open) {
             boolean well = readFact(open);
-            for (int k = 0; well && k < TAPE_MOST && tokens.own == Tokens.AND; k++) {
+            for (int k = 0; well && k < TAPE_MOST && tokens.code == Tokens.AND; k++) {
                 tokens.next();
                 well = readFact(open);
-                rules.add(Rules.BOTH);
+                plan.rules.add(Rules.BOTH);
             }
             return well;
         }
@@ -1287,11 +1318,11 @@ public final class SoapDeeds {
             if (tokens.isSign('[')) {
                 return readOpening('[', open) && readTest(open + 1) && readSign(']');
             }
-            if (tokens.own == Tokens.NOT) {
+            if (tokens.code == Tokens.NOT) {
                 return readNot(open);
             }
-            if (tokens.own == Tokens.ALL) {
-                rules.add(1);
+            if (tokens.code == Tokens.ALL) {
+                plan.rules.add(1);
                 tokens.next();
                 return true;
             }
@@ -1304,7 +1335,7 @@ public final class SoapDeeds {
             }
             tokens.next();
             boolean well = readFact(open + 1);
-            rules.add(Rules.NOT);
+            plan.rules.add(Rules.NOT);
             return well;
         }
 
@@ -1315,7 +1346,7 @@ public final class SoapDeeds {
             }
             tokens.next();
             boolean well = readSum(open);
-            rules.add(code);
+            plan.rules.add(code);
             return well;
         }
     }
@@ -1347,8 +1378,8 @@ public final class SoapDeeds {
             keptCount = 0;
             for (int k = 0; k < EACH; k++) {
                 boolean floats = plan.isThere(BUBBLE, k);
-                heirCell[k] = plan.isThere(HEIR, k) ? plan.cell[EACH * HEIR + k] : NONE;
-                bubbleCell[k] = floats ? plan.cell[EACH * BUBBLE + k] : NONE;
+                heirCell[k] = plan.cellOf(HEIR, k);
+                bubbleCell[k] = plan.cellOf(BUBBLE, k);
                 film[k] = floats ? plan.film[k] : 0;
                 size[k] = floats ? plan.size[k] : 0;
                 deeds[k] = floats ? 1 << k : 0;
@@ -1422,17 +1453,50 @@ public final class SoapDeeds {
             return all;
         }
 
-        void clearBubble(int bubble) {
-            if (bubble >= 0 && bubble < EACH) {
-                bubbleCell[bubble] = NONE;
-                film[bubble] = 0;
-                size[bubble] = 0;
-                deeds[bubble] = 0;
+        /** The other one is GONE into the first. */
+        void joinTwo(int bubble, int other) {
+            if (isSlot(bubble) && isSlot(other)) {
+                film[bubble] = Math.max(film[bubble], film[other]);
+                size[bubble] = Math.min(SIZE_MOST, size[bubble] + size[other]);
+                deeds[bubble] |= deeds[other];
+                clearBubble(other);
             }
         }
 
-        void keep(int bubble, int heir, int howMany) {
-            if (keptCount >= 0 && keptCount < EACH) {
+        void burst(int bubble, int heir) {
+            if (isSlot(bubble)) {
+                int howMany = Integer.bitCount(deeds[bubble]);
+                for (int deed = 0; deed < EACH; deed++) {
+                    if ((deeds[bubble] >> deed & 1) == 1) {
+                        owner[deed] = heir;
+                    }
+                }
+                clearBubble(bubble);
+                keep(bubble, heir, howMany);
+            }
+        }
+
+        void addRent(int bubble, int more) {
+            for (int deed = 0; deed < EACH && isSlot(bubble); deed++) {
+                if ((deeds[bubble] >> deed & 1) == 1) {
+                    rent[deed] = Math.min(RENT_MOST, rent[deed] + more);
+                }
+            }
+        }
+
+        private static boolean isSlot(int which) {
+            return which >= 0 && which < EACH;
+        }
+
+        private void clearBubble(int bubble) {
+            bubbleCell[bubble] = NONE;
+            film[bubble] = 0;
+            size[bubble] = 0;
+            deeds[bubble] = 0;
+        }
+
+        private void keep(int bubble, int heir, int howMany) {
+            if (isSlot(keptCount)) {
                 int row = KEPT_PARTS * keptCount;
                 keptRows[row] = second;
                 keptRows[row + 1] = bubble;
@@ -1447,23 +1511,19 @@ public final class SoapDeeds {
     private static final class Works {
         private final int[] wind = new int[CELLS];
         private final int[] drifted = new int[EACH];
-        private Plan plan = null;
-        private Rules rules = null;
 
         /** DRAUGHTS change by DOORS alone, so they are looked up once for many SECONDS. */
-        void prepare(Plan itsPlan, Scene scene) {
-            plan = itsPlan;
-            rules = itsPlan.rules;
+        void prepare(Plan plan, Scene scene) {
             Arrays.fill(wind, NONE);
-            for (int door = 0; plan.isThere(DOOR, door); door++) {
+            for (int door = 0; door < plan.many(DOOR); door++) {
                 if ((scene.open >> door & 1) == 1) {
-                    blow(door);
+                    blow(plan, door);
                 }
             }
         }
 
-        private void blow(int door) {
-            int cell = plan.cell[door];
+        private void blow(Plan plan, int door) {
+            int cell = plan.cellOf(DOOR, door);
             for (int k = 0; k <= plan.reach[door] && cell >= 0 && cell < CELLS; k++) {
                 if (wind[cell] == NONE) {
                     wind[cell] = plan.way[door];
@@ -1477,23 +1537,20 @@ public final class SoapDeeds {
         }
 
         /** How many BURST; breath is the WAY of a breath, NONE without one. */
-        int pass(Scene scene, int breath) {
-            if (plan == null || rules == null) {
-                return 0;
-            }
+        int pass(Plan plan, Scene scene, int breath) {
             int burst = 0;
-            driftAll(scene, breath);
+            driftAll(plan, scene, breath);
             joinAll(scene);
             for (int bubble = 0; bubble < EACH; bubble++) {
                 if (scene.bubbleCell[bubble] != NONE) {
-                    burst += thinOne(scene, bubble) ? 1 : 0;
+                    burst += thinOne(plan, scene, bubble) ? 1 : 0;
                 }
             }
             scene.second = Math.min(LAST_SECOND, scene.second + 1);
             return burst;
         }
 
-        private void driftAll(Scene scene, int breath) {
+        private void driftAll(Plan plan, Scene scene, int breath) {
             for (int bubble = 0; bubble < EACH; bubble++) {
                 int cell = scene.bubbleCell[bubble];
                 int way = windIn(cell);
@@ -1507,20 +1564,18 @@ public final class SoapDeeds {
 
         private void joinAll(Scene scene) {
             for (int bubble = 0; bubble < EACH; bubble++) {
-                for (int other = bubble + 1; other < EACH; other++) {
-                    int cell = scene.bubbleCell[bubble];
-                    if (cell != NONE && cell == scene.bubbleCell[other]) {
-                        scene.film[bubble] = Math.max(scene.film[bubble], scene.film[other]);
-                        scene.size[bubble] = Math.min(SIZE_MOST, scene.size[bubble] + scene.size[other]);
-                        scene.deeds[bubble] |= scene.deeds[other];
-                        scene.clearBubble(other);
+                int cell = scene.bubbleCell[bubble];
+                for (int other = bubble + 1; other < EACH && cell != NONE; other++) {
+                    if (scene.bubbleCell[other] == cell) {
+                        scene.joinTwo(bubble, other);
                     }
                 }
             }
         }
 
         /** Whether it BURSTS. */
-        private boolean thinOne(Scene scene, int bubble) {
+        private boolean thinOne(Plan plan, Scene scene, int bubble) {
+            Rules rules = plan.rules;
             rules.setQuality(Rules.FILM, scene.film[bubble]);
             rules.setQuality(Rules.SIZE, scene.size[bubble]);
             rules.setQuality(Rules.SECOND, scene.second);
@@ -1528,41 +1583,20 @@ public final class SoapDeeds {
             int less = rules.isTold(Rules.THINS) ? rules.result(Rules.THINS) : 1;
             int film = Math.max(0, Math.min(FILM_MOST, scene.film[bubble] - less));
             scene.film[bubble] = film;
+            // From here on the film is the thinned one, for the TEST of bursts and for hue.
             rules.setQuality(Rules.FILM, film);
             int heir = scene.heirIn(scene.bubbleCell[bubble]);
-            boolean heirThere = heir >= 0 && heir < EACH;
-            rules.setQuality(Rules.TALL, heirThere ? plan.tall[heir] : 0);
+            rules.setQuality(Rules.TALL, plan.isThere(HEIR, heir) ? plan.tall[heir] : 0);
             if (film == 0 || rules.result(Rules.BURSTS) != 0) {
-                burstOne(scene, bubble, heir);
+                scene.burst(bubble, heir);
                 return true;
             }
             if (scene.bubbleCell[bubble] == scene.lamp) {
-                lightOne(scene, bubble);
+                rules.setQuality(Rules.DEEDS, Integer.bitCount(scene.deeds[bubble]));
+                int hue = rules.isTold(Rules.HUE) ? rules.result(Rules.HUE) : film / 10;
+                scene.addRent(bubble, Math.max(0, Math.min(HUE_MOST, hue)));
             }
             return false;
-        }
-
-        private void burstOne(Scene scene, int bubble, int heir) {
-            int deeds = scene.deeds[bubble];
-            for (int deed = 0; deed < EACH; deed++) {
-                if ((deeds >> deed & 1) == 1) {
-                    scene.owner[deed] = heir;
-                }
-            }
-            scene.keep(bubble, heir, Integer.bitCount(deeds));
-            scene.clearBubble(bubble);
-        }
-
-        private void lightOne(Scene scene, int bubble) {
-            int deeds = scene.deeds[bubble];
-            rules.setQuality(Rules.DEEDS, Integer.bitCount(deeds));
-            int hue = rules.isTold(Rules.HUE) ? rules.result(Rules.HUE) : scene.film[bubble] / 10;
-            int more = Math.max(0, Math.min(9, hue));
-            for (int deed = 0; deed < EACH; deed++) {
-                if ((deeds >> deed & 1) == 1) {
-                    scene.rent[deed] = Math.min(RENT_MOST, scene.rent[deed] + more);
-                }
-            }
         }
     }
 
@@ -1574,43 +1608,41 @@ public final class SoapDeeds {
         // For each number of SECONDS a count for each CELL, and one for GONE.
         private static final int GROUPS = CELLS + 1;
 
+        private final Works works = new Works();
         private final Scene trial = new Scene();
         private final int[] felt = new int[FELT_MOST * FELT_PARTS];
         private final int[] path = new int[FELT_SECONDS + 1];
         private final int[] groups = new int[(FELT_SECONDS + 1) * GROUPS];
-        private Plan plan = null;
-        private Scene now = null;
-        private Works works = null;
-        final int[] fromCell = new int[CELLS];
-        private int fromCount = 0;
+        private final int[] fromCell = new int[CELLS];
+        int fromCount = 0;
         int feltCount = 0;
         int bestCell = NONE;
         int bestWorth = NONE;
         int tellingSecond = NONE;
         int tellingLeft = NONE;
 
-        void look(Plan itsPlan, Scene itsNow, Works itsWorks) {
-            plan = itsPlan;
-            now = itsNow;
-            works = itsWorks;
+        private void start(Plan plan, Scene now) {
             trial.copy(now);
             works.prepare(plan, trial);
         }
 
-        private void run(int n) {
+        private void run(Plan plan, int n) {
             for (int k = 0; k < n; k++) {
-                works.pass(trial, NONE);
+                works.pass(plan, trial, NONE);
             }
         }
 
-        Scene after(int n) {
-            run(n);
+        Scene after(Plan plan, Scene now, int n) {
+            start(plan, now);
+            run(plan, n);
             return trial;
         }
 
-        int secondOfGoing(int bubble, int most) {
-            for (int k = 0; k < most; k++) {
-                works.pass(trial, NONE);
+        int secondOfGoing(Plan plan, Scene now, int bubble) {
+            int last = Math.min(RUN_MOST, LAST_SECOND - now.second);
+            start(plan, now);
+            for (int k = 0; k < last && plan.isThere(BUBBLE, bubble); k++) {
+                works.pass(plan, trial, NONE);
                 if (trial.bubbleCell[bubble] == NONE) {
                     return k;
                 }
@@ -1618,9 +1650,9 @@ public final class SoapDeeds {
             return NONE;
         }
 
-        int fewestDoors(int deed, int heir, int n) {
+        int fewestDoors(Plan plan, Scene now, int deed, int heir, int n) {
             int best = NONE;
-            int sets = 1 << plan.count[DOOR];
+            int sets = plan.isThere(BUBBLE, deed) ? 1 << plan.many(DOOR) : 0;
             for (int set = 0; set < sets; set++) {
                 if (best != NONE && Integer.bitCount(set) >= Integer.bitCount(best)) {
                     continue;
@@ -1628,7 +1660,7 @@ public final class SoapDeeds {
                 trial.copy(now);
                 trial.open ^= set;
                 works.prepare(plan, trial);
-                run(n);
+                run(plan, n);
                 if (trial.owner[deed] == heir) {
                     best = set;
                 }
@@ -1636,33 +1668,31 @@ public final class SoapDeeds {
             return best;
         }
 
-        void findStand(int heir, int n) {
+        void findStand(Plan plan, Scene now, int heir, int n) {
             forgetBest();
-            for (int cell = 0; cell < CELLS; cell++) {
-                boolean free = now.heirCell[heir] == cell || now.heirIn(cell) == NONE;
-                if (isInRoom(cell) && free) {
+            start(plan, now);
+            for (int cell = 0; cell < CELLS && plan.isThere(HEIR, heir); cell++) {
+                boolean isFree = now.heirCell[heir] == cell || now.heirIn(cell) == NONE;
+                if (plan.isCell(cell) && isFree) {
                     trial.copy(now);
                     trial.heirCell[heir] = cell;
-                    run(n);
+                    run(plan, n);
                     compare(cell, trial.deedsOwnedBy(heir));
                 }
             }
         }
 
-        void findShine(int n) {
+        void findShine(Plan plan, Scene now, int n) {
             forgetBest();
+            start(plan, now);
             for (int cell = 0; cell < CELLS; cell++) {
-                if (isInRoom(cell)) {
+                if (plan.isCell(cell)) {
                     trial.copy(now);
                     trial.lamp = cell;
-                    run(n);
+                    run(plan, n);
                     compare(cell, trial.rentOfAll());
                 }
             }
-        }
-
-        private boolean isInRoom(int cell) {
-            return plan.cellAt(cell % WIDE, cell / WIDE) != NONE;
         }
 
         private void forgetBest() {
@@ -1677,11 +1707,12 @@ public final class SoapDeeds {
             }
         }
 
-        int leastFilm(int bubble, int n) {
-            for (int film = 1; film <= FILM_MOST; film++) {
+        int leastFilm(Plan plan, Scene now, int bubble, int n) {
+            start(plan, now);
+            for (int film = 1; film <= FILM_MOST && plan.isThere(BUBBLE, bubble); film++) {
                 trial.copy(now);
                 trial.film[bubble] = film;
-                run(n);
+                run(plan, n);
                 if (trial.bubbleCell[bubble] != NONE) {
                     return film;
                 }
@@ -1689,31 +1720,34 @@ public final class SoapDeeds {
             return NONE;
         }
 
-        int rowsToOwn(int deed, int heir) {
-            int rows = WAYS * (100 - plan.breath) * ownedBehindNext(deed, heir, NONE);
+        int rowsToOwn(Plan plan, Scene now, int deed, int heir) {
+            start(plan, now);
+            boolean owns = ownsBehindNext(plan, now, deed, heir, NONE);
+            int rows = owns ? WAYS * (HUNDRED - plan.breath) : 0;
             for (int way = 0; way < WAYS; way++) {
-                rows += plan.breath * ownedBehindNext(deed, heir, way);
+                rows += ownsBehindNext(plan, now, deed, heir, way) ? plan.breath : 0;
             }
             return rows;
         }
 
-        private int ownedBehindNext(int deed, int heir, int breath) {
+        private boolean ownsBehindNext(Plan plan, Scene now, int deed, int heir, int breath) {
             trial.copy(now);
-            works.pass(trial, breath);
-            return trial.owner[deed] == heir ? 1 : 0;
+            works.pass(plan, trial, breath);
+            return plan.isThere(BUBBLE, deed) && trial.owner[deed] == heir;
         }
 
         void forget() {
             feltCount = 0;
         }
 
-        boolean takeFelt(Tape tape, Plan itsPlan) {
+        /** False, and FELT stays, if the tape is none such. */
+        boolean takeFelt(Tape tape, Plan plan) {
             int rows = tape.length / FELT_PARTS;
             if (rows < 1 || rows > FELT_MOST || tape.length % FELT_PARTS != 0) {
                 return false;
             }
             for (int row = 0; row < rows; row++) {
-                if (!canBeFelt(tape, FELT_PARTS * row, itsPlan)) {
+                if (!canBeFelt(tape, FELT_PARTS * row, plan)) {
                     return false;
                 }
             }
@@ -1724,25 +1758,29 @@ public final class SoapDeeds {
             return true;
         }
 
-        private boolean canBeFelt(Tape tape, int k, Plan itsPlan) {
+        private static boolean canBeFelt(Tape tape, int k, Plan plan) {
             int column = tape.at(k + 2);
             int row = tape.at(k + 3);
             boolean isGone = column == OUTSIDE && row == OUTSIDE;
-            return tape.at(k) <= FELT_SECONDS && itsPlan.isThere(BUBBLE, tape.at(k + 1))
-                && (isGone || itsPlan.cellAt(column, row) != NONE);
+            return tape.at(k) <= FELT_SECONDS && plan.isThere(BUBBLE, tape.at(k + 1))
+                && (isGone || plan.cellAt(column, row) != NONE);
         }
 
-        /** How many CELLS are FROM; they stand in fromCell. */
-        int findFrom(int bubble) {
+        void findFrom(Plan plan, Scene now, int bubble) {
             int last = lastFelt();
             fromCount = 0;
+            start(plan, now);
             for (int cell = 0; cell < CELLS; cell++) {
-                if (isInRoom(cell) && follow(bubble, cell, last)) {
+                boolean isFrom = plan.isCell(cell) && follow(plan, now, bubble, cell, last);
+                if (isFrom && fromCount < fromCell.length) {
                     fromCell[fromCount] = cell;
                     fromCount++;
                 }
             }
-            return fromCount;
+        }
+
+        int fromAt(int k) {
+            return k >= 0 && k < fromCount && k < fromCell.length ? fromCell[k] : NONE;
         }
 
         private int lastFelt() {
@@ -1753,18 +1791,18 @@ public final class SoapDeeds {
             return last;
         }
 
-        /** Whether all FELT is so with the BUBBLE in that CELL; path has its CELLS up to the last SECOND. */
-        private boolean follow(int bubble, int cell, int last) {
-            if (now.second + lastFelt() > LAST_SECOND) {
+        /** Whether all FELT is so with the BUBBLE put in that CELL; path has its CELLS up to the last SECOND. */
+        private boolean follow(Plan plan, Scene now, int bubble, int cell, int last) {
+            if (!plan.isThere(BUBBLE, bubble) || now.second + lastFelt() > LAST_SECOND) {
                 return false;
             }
             trial.copy(now);
             trial.bubbleCell[bubble] = cell;
             for (int n = 0; n <= last && n < path.length; n++) {
                 if (n > 0) {
-                    works.pass(trial, NONE);
+                    works.pass(plan, trial, NONE);
                 }
-                if (!isAsFelt(n)) {
+                if (!isAsFelt(plan, n)) {
                     return false;
                 }
                 path[n] = trial.bubbleCell[bubble];
@@ -1772,11 +1810,12 @@ public final class SoapDeeds {
             return true;
         }
 
-        private boolean isAsFelt(int n) {
+        private boolean isAsFelt(Plan plan, int n) {
             for (int row = 0; row < feltCount && row < FELT_MOST; row++) {
                 int k = FELT_PARTS * row;
-                boolean known = plan.isThere(BUBBLE, felt[k + 1]);
-                if (felt[k] == n && (!known || trial.bubbleCell[felt[k + 1]] != plan.cellAt(felt[k + 2], felt[k + 3]))) {
+                int bubble = felt[k + 1];
+                int cell = plan.cellAt(felt[k + 2], felt[k + 3]);
+                if (felt[k] == n && plan.isThere(BUBBLE, bubble) && trial.bubbleCell[bubble] != cell) {
                     return false;
                 }
             }
@@ -1784,12 +1823,13 @@ public final class SoapDeeds {
         }
 
         /** False without any CELL left, or when no SECOND comes. */
-        boolean findTelling(int bubble) {
+        boolean findTelling(Plan plan, Scene now, int bubble) {
             int last = Math.min(FELT_SECONDS, LAST_SECOND - now.second);
             int left = 0;
             Arrays.fill(groups, 0);
+            start(plan, now);
             for (int cell = 0; cell < CELLS; cell++) {
-                if (isInRoom(cell) && follow(bubble, cell, last)) {
+                if (plan.isCell(cell) && follow(plan, now, bubble, cell, last)) {
                     left++;
                     countPath(last);
                 }
@@ -1817,8 +1857,8 @@ public final class SoapDeeds {
 
         private int largestGroup(int n) {
             int most = 0;
-            for (int group = 0; group < GROUPS; group++) {
-                most = Math.max(most, groups[GROUPS * n + group]);
+            for (int k = GROUPS * n; k < GROUPS * (n + 1) && k >= 0 && k < groups.length; k++) {
+                most = Math.max(most, groups[k]);
             }
             return most;
         }
@@ -1844,12 +1884,12 @@ public final class SoapDeeds {
         }
 
         void push(Scene scene) {
-            scenes[(first + count) % ACTS_MOST].copy(scene);
-            if (count < ACTS_MOST) {
-                count++;
-            } else {
+            if (count == ACTS_MOST) {
                 first = (first + 1) % ACTS_MOST;
+                count--;
             }
+            copyScene(scene, scenes[(first + count) % ACTS_MOST]);
+            count++;
         }
 
         /** False when there is none. */
@@ -1858,8 +1898,14 @@ public final class SoapDeeds {
                 return false;
             }
             count--;
-            into.copy(scenes[(first + count) % ACTS_MOST]);
+            copyScene(scenes[(first + count) % ACTS_MOST], into);
             return true;
+        }
+
+        private static void copyScene(Scene scene, Scene into) {
+            if (scene != null && into != null) {
+                into.copy(scene);
+            }
         }
     }
 
@@ -1870,26 +1916,25 @@ public final class SoapDeeds {
         final int[] bytes = new int[BYTES_MOST];
         int length = 0;
         final Scene told = new Scene();
-        private Tape tape = null;
         private int at = 0;
 
         int write(Plan plan, Scene scene) {
             length = 0;
             putTwo(scene.second);
             putCell(scene.lamp);
-            for (int door = 0; door < plan.count[DOOR]; door++) {
+            for (int door = 0; door < plan.many(DOOR); door++) {
                 put(scene.open >> door & 1);
             }
-            for (int heir = 0; plan.isThere(HEIR, heir); heir++) {
+            for (int heir = 0; heir < plan.many(HEIR); heir++) {
                 putCell(scene.heirCell[heir]);
             }
-            for (int bubble = 0; plan.isThere(BUBBLE, bubble); bubble++) {
+            for (int bubble = 0; bubble < plan.many(BUBBLE); bubble++) {
                 putCell(scene.bubbleCell[bubble]);
                 put(scene.film[bubble]);
                 put(scene.size[bubble]);
                 put(scene.deeds[bubble]);
             }
-            for (int deed = 0; plan.isThere(BUBBLE, deed); deed++) {
+            for (int deed = 0; deed < plan.many(BUBBLE); deed++) {
                 put(scene.owner[deed] == NONE ? OUTSIDE : scene.owner[deed]);
                 putTwo(scene.rent[deed]);
             }
@@ -1923,16 +1968,15 @@ public final class SoapDeeds {
         }
 
         /** Whether the tape is AN IMAGE of the room; if so, told is as it tells. */
-        boolean read(Tape itsTape, Plan plan) {
-            tape = itsTape;
+        boolean read(Tape tape, Plan plan) {
             at = 0;
             told.begin(plan);
-            return isChecked(plan) && readTimeAndLamp(plan) && readDoors(plan) && readHeirs(plan)
-                && readBubbles(plan) && readDeeds(plan);
+            return isChecked(tape, plan) && readTimeAndLamp(tape, plan) && readDoors(tape, plan)
+                && readHeirs(tape, plan) && readBubbles(tape, plan) && readDeeds(tape, plan);
         }
 
-        private boolean isChecked(Plan plan) {
-            int due = 5 + plan.count[DOOR] + 2 * plan.count[HEIR] + 8 * plan.count[BUBBLE];
+        private boolean isChecked(Tape tape, Plan plan) {
+            int due = 5 + plan.many(DOOR) + 2 * plan.many(HEIR) + 8 * plan.many(BUBBLE);
             if (tape.length != due) {
                 return false;
             }
@@ -1943,20 +1987,20 @@ public final class SoapDeeds {
             return check == tape.at(due - 1);
         }
 
-        private int take() {
+        private int take(Tape tape) {
             at++;
             return tape.at(at - 1);
         }
 
-        private int takeTwo() {
-            int high = take();
-            return 256 * high + take();
+        private int takeTwo(Tape tape) {
+            int high = take(tape);
+            return 256 * high + take(tape);
         }
 
-        private boolean readTimeAndLamp(Plan plan) {
-            told.second = takeTwo();
-            int column = take();
-            int row = take();
+        private boolean readTimeAndLamp(Tape tape, Plan plan) {
+            told.second = takeTwo(tape);
+            int column = take(tape);
+            int row = take(tape);
             told.lamp = plan.cellAt(column, row);
             return told.second <= LAST_SECOND && (told.lamp != NONE || isOutside(column, row));
         }
@@ -1965,10 +2009,10 @@ public final class SoapDeeds {
             return column == OUTSIDE && row == OUTSIDE;
         }
 
-        private boolean readDoors(Plan plan) {
+        private boolean readDoors(Tape tape, Plan plan) {
             told.open = 0;
-            for (int door = 0; plan.isThere(DOOR, door); door++) {
-                int flag = take();
+            for (int door = 0; door < plan.many(DOOR); door++) {
+                int flag = take(tape);
                 if (flag < 0 || flag > 1) {
                     return false;
                 }
@@ -1977,11 +2021,11 @@ public final class SoapDeeds {
             return true;
         }
 
-        private boolean readHeirs(Plan plan) {
+        private boolean readHeirs(Tape tape, Plan plan) {
             Arrays.fill(told.heirCell, NONE);
-            for (int heir = 0; plan.isThere(HEIR, heir); heir++) {
-                int column = take();
-                int cell = plan.cellAt(column, take());
+            for (int heir = 0; heir < plan.many(HEIR); heir++) {
+                int column = take(tape);
+                int cell = plan.cellAt(column, take(tape));
                 if (cell == NONE || told.heirIn(cell) != NONE) {
                     return false;
                 }
@@ -1990,18 +2034,18 @@ public final class SoapDeeds {
             return true;
         }
 
-        private boolean readBubbles(Plan plan) {
+        private boolean readBubbles(Tape tape, Plan plan) {
             int deedsSeen = 0;
-            int allDeeds = (1 << plan.count[BUBBLE]) - 1;
+            int allDeeds = (1 << plan.many(BUBBLE)) - 1;
             Arrays.fill(told.bubbleCell, NONE);
-            for (int bubble = 0; plan.isThere(BUBBLE, bubble); bubble++) {
-                int column = take();
-                int row = take();
+            for (int bubble = 0; bubble < plan.many(BUBBLE); bubble++) {
+                int column = take(tape);
+                int row = take(tape);
                 int cell = plan.cellAt(column, row);
                 boolean free = cell == NONE ? isOutside(column, row) : !isBubbleIn(cell);
-                told.film[bubble] = take();
-                told.size[bubble] = take();
-                int deeds = take();
+                told.film[bubble] = take(tape);
+                told.size[bubble] = take(tape);
+                int deeds = take(tape);
                 if (!free || (deeds & ~allDeeds) != 0 || (deeds & deedsSeen) != 0) {
                     return false;
                 }
@@ -2034,13 +2078,13 @@ public final class SoapDeeds {
             return film >= 1 && film <= FILM_MOST && size >= 1 && size <= SIZE_MOST && deeds != 0;
         }
 
-        private boolean readDeeds(Plan plan) {
-            for (int deed = 0; plan.isThere(BUBBLE, deed); deed++) {
-                int heir = take();
+        private boolean readDeeds(Tape tape, Plan plan) {
+            for (int deed = 0; deed < plan.many(BUBBLE); deed++) {
+                int heir = take(tape);
                 boolean nobody = heir == OUTSIDE;
                 boolean somebody = plan.isThere(HEIR, heir) && told.bubbleWith(deed) == NONE;
                 told.owner[deed] = nobody ? NONE : heir;
-                told.rent[deed] = takeTwo();
+                told.rent[deed] = takeTwo(tape);
                 if (!nobody && !somebody || told.rent[deed] > RENT_MOST) {
                     return false;
                 }
