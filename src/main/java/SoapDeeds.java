@@ -1712,7 +1712,10 @@ public final class SoapDeeds {
             for (int film = 1; film <= FILM_MOST && plan.isThere(BUBBLE, bubble); film++) {
                 trial.copy(now);
                 trial.film[bubble] = film;
-                run(plan, n);
+                // Most films are soon GONE: no need to go on then.
+                for (int k = 0; k < n && trial.bubbleCell[bubble] != NONE; k++) {
+                    works.pass(plan, trial, NONE);
+                }
                 if (trial.bubbleCell[bubble] != NONE) {
                     return film;
                 }
@@ -1793,13 +1796,16 @@ public final class SoapDeeds {
 
         /** Whether all FELT is so with the BUBBLE put in that CELL; path has its CELLS up to the last SECOND. */
         private boolean follow(Plan plan, Scene now, int bubble, int cell, int last) {
-            if (!plan.isThere(BUBBLE, bubble) || now.second + lastFelt() > LAST_SECOND) {
+            int needed = lastFelt();
+            if (!plan.isThere(BUBBLE, bubble) || now.second + needed > LAST_SECOND) {
                 return false;
             }
             trial.copy(now);
             trial.bubbleCell[bubble] = cell;
             for (int n = 0; n <= last && n < path.length; n++) {
-                if (n > 0) {
+                // What is GONE stays GONE, so behind the last FELT row nothing more is to be tried.
+                boolean isOver = n > needed && trial.bubbleCell[bubble] == NONE;
+                if (n > 0 && !isOver) {
                     works.pass(plan, trial, NONE);
                 }
                 if (!isAsFelt(plan, n)) {

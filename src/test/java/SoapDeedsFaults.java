@@ -222,6 +222,12 @@ public final class SoapDeedsFaults {
         good(2, R + "thins min(((((((1)))))),1);");
         fault(5, R + "thins ((((((min(^(1");
         fault(5, R + "thins (((((((min^(1");
+        fault(5, R + "thins min(1,((((((^(1");
+        fault(5, R + "thins if(1<((((((^(1");
+        fault(5, R + "thins if(all,((((((^(1");
+        fault(5, R + "thins if(all,1,((((((^(1");
+        String deep = times(6, "(") + "1" + times(6, ")");
+        good(2, R + "thins if(" + deep + "=1," + deep + "," + deep + ");");
         fault(5, R + "thins (((((((max^(1");
         fault(5, R + "thins (((((((if^(all");
         fault(1, R + "thins (((((((min^1");

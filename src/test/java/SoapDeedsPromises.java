@@ -134,6 +134,17 @@ public final class SoapDeedsPromises {
         due("room()", x.room(), NONE);
         due("its place", x.fault(1), 0);
         due("status(1)", x.status(1), 1);
+        // Bytes behind the end count no more: "room 3 by 3" of "room 3 by 34".
+        promise = 3;
+        x.feed(0x726f6f6d, 0x20332062, 0x79203334, 0, 0);
+        x.end(11);
+        due("room()", x.room(), NONE);
+        due("its fault", x.fault(0), 1);
+        due("its place", x.fault(1), 11);
+        x.feed(0x726f6f6d, 0x20332062, 0x7920333b, 0x6c616d70, 0);
+        x.end(15);
+        due("lam of lamp", x.room(), NONE);
+        due("its place", x.fault(1), 12);
     }
 
     private static void roomAndFault() {
@@ -547,6 +558,12 @@ public final class SoapDeedsPromises {
         x.seconds(3);
         due("owned already, n 0", x.doors(0, 0, 0), 0);
         due("owned by another", x.doors(0, 1, 20), NONE);
+        // c leads p south to h; so do a and b, round by the open d: one DOOR (bits 4) is fewer than two (bits 3).
+        x = in("room 4 by 4;door a at 0 0 blows 1 reach 1;door b at 2 0 blows 2 reach 1;door c at 0 0 blows 2 reach 1;"
+            + "door d at 2 2 blows 3 reach 1;open d;heir h at 0 2 tall 1;bubble p at 0 0 film 7 size 1;");
+        due("c alone", x.doors(0, 0, 7), 4);
+        x.swing(0, 1);
+        due("b then, not a with c", x.doors(0, 0, 7), 2);
 
         promise = 18;
         x = in(FOUR);
@@ -1092,6 +1109,7 @@ public final class SoapDeedsPromises {
         refusedImage(x, "a size of one gone", good, 13, 1);
         refusedImage(x, "a deed of one gone", good, 14, 2);
         refusedImage(x, "two bubbles in one", good, 15, 3, 2, 1, 1, 2);
+        refusedImage(x, "two bubbles in one, the first of them", good, 10, 3, 2, 1, 1, 1);
         refusedImage(x, "a deed in two", good, 15, 0, 0, 1, 1, 4);
         refusedImage(x, "a heir that is none owns", good, 28, 2);
         refusedImage(x, "an owner of one in a bubble", good, 31, 0);
