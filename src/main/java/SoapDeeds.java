@@ -40,7 +40,7 @@ public final class SoapDeeds {
     private final Images images = new Images();
     private final int[] refusals = new int[6];
     private Plan plan = new Plan();
-    private int chain = 1;
+    private int seedNow = 1;
 
     public SoapDeeds() {
         scene.begin(plan);
@@ -117,7 +117,7 @@ public final class SoapDeeds {
             case 11:
                 return history.count;
             case 12:
-                return chain;
+                return seedNow;
             default:
                 return NONE;
         }
@@ -344,7 +344,7 @@ public final class SoapDeeds {
         if (seed < 0) {
             return refused(OF_READING);
         }
-        chain = seed;
+        seedNow = seed;
         return true;
     }
 
@@ -447,8 +447,8 @@ public final class SoapDeeds {
     }
 
     private int draw(int m) {
-        chain = (int) (1103515245L * chain + 12345L & 0x7fffffffL);
-        return m > 0 ? chain / 64 % m : 0;
+        seedNow = (int) (1103515245L * seedNow + 12345L & 0x7fffffffL);
+        return m > 0 ? seedNow / 64 % m : 0;
     }
 
     /** The bytes that were fed and not yet read. */

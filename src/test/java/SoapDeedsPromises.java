@@ -548,6 +548,7 @@ public final class SoapDeedsPromises {
         due("n -1", x.doors(0, 0, -1), NONE);
         due("no such deed", x.doors(1, 0, 3), NONE);
         due("no such heir", x.doors(0, 3, 3), NONE);
+        due("nobody is no heir", x.doors(0, -1, 3), NONE);
         x.swing(0, 1);
         due("h as it is", x.doors(0, 0, 3), 0);
         due("k: a shut, b open", x.doors(0, 1, 3), 3);
@@ -651,6 +652,7 @@ public final class SoapDeedsPromises {
         due("no such deed", x.odds(1, 0), NONE);
         due("no such heir", x.odds(0, 4), NONE);
         due("-1", x.odds(-1, -1), NONE);
+        due("nobody is no heir", x.odds(0, -1), NONE);
         due("the seed stays", x.has(12), 1);
         x.seconds(1);
         due("owned", x.odds(0, 0), 400);
