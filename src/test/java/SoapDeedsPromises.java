@@ -1111,7 +1111,10 @@ public final class SoapDeedsPromises {
         refusedImage(x, "a size of one gone", good, 13, 1);
         refusedImage(x, "a deed of one gone", good, 14, 2);
         refusedImage(x, "two bubbles in one", good, 15, 3, 2, 1, 1, 2);
-        refusedImage(x, "two bubbles in one, the first of them", good, 10, 3, 2, 1, 1, 1);
+        int[] lost = good.clone();
+        lost[25] = 255;
+        refusedImage(x, "two bubbles in one, the first of them", lost, 10, 3, 2, 1, 1, 1);
+        takenImage("the first bubble back", lost, 10, 3, 3, 1, 1, 1);
         refusedImage(x, "a deed in two", good, 15, 0, 0, 1, 1, 4);
         refusedImage(x, "a heir that is none owns", good, 28, 2);
         refusedImage(x, "an owner of one in a bubble", good, 31, 0);
