@@ -248,6 +248,14 @@ final class EdgesOfAhead {
         sheet.due("of another one: all but its CELL", x.from(0, NONE), 8);
         Sheet.felt(x, 1, 1, 2, 1);
         sheet.due("of another one, not so", x.from(0, NONE), 0);
+        // Others go on when it is GONE, whatever was FELT of them.
+        x = sheet.in("room 3 by 3;door d at 0 0 blows 1 reach 6;open d;bubble p at 2 2 film 1 size 1;bubble q at 0 0 film 9 size 1;");
+        Sheet.felt(x, 1, 0, 255, 255, 2, 1, 2, 0);
+        sheet.due("q is at 2 0 behind two, but where p joins it", x.from(0, NONE), 8);
+        Sheet.felt(x, 2, 1, 1, 0);
+        sheet.due("q is at 1 0 no more", x.from(0, NONE), 0);
+        Sheet.felt(x, 3, 1, 2, 0);
+        sheet.due("q is at 2 0 still", x.from(0, NONE), 8);
         x = sheet.in("room 3 by 3;bubble p at 0 0 film 1 size 1;");
         x.seconds(1);
         sheet.due("GONE", x.from(0, NONE), NONE);
@@ -287,6 +295,12 @@ final class EdgesOfAhead {
         tellsIs("the first", sheet.in("room 3 by 3;bubble p at 0 0 film 90 size 1;"), 0, 1, 1);
         // Behind one SECOND at most 2 are in one CELL, behind two 3: the fewest counts, not the last.
         tellsIs("fewest", sheet.in(ALIKE), 0, 1, 2);
+        for (int way = 0; way < 4; way++) {
+            String corner = way == 0 ? "0 2" : way == 3 ? "2 0" : "0 0";
+            tellsIs("fewest, way " + way, sheet.in("room 3 by 3;door a at " + corner + " blows " + way + " reach 6;open a;bubble p at 0 0 film 9 size 1;"), 0, 1, 2);
+            tellsIs("fewest, way " + way, sheet.in("room 7 by 7;door a at " + corner.replace('2', '6') + " blows " + way
+                + " reach 6;open a;bubble p at 3 3 film 9 size 1;"), 0, 1, 2);
+        }
     }
 
     private void image() {

@@ -25,6 +25,7 @@ final class EdgesOfFaults {
         ownWords();
         firstOfAll();
         wrongByte();
+        leftOut();
         tooSoon();
         tooLong();
         ownWordForName();
@@ -170,6 +171,30 @@ final class EdgesOfFaults {
         sheet.fault(1, R + "lamp 0 0 ^12");
         sheet.fault(1, R + "bursts film<1 ^andall;");
         sheet.fault(1, R + "thins ^filmx;");
+    }
+
+    /** STATEMENTS that end too soon with a ; or that have a word less: no ROOM goes on with what stands there then. */
+    private void leftOut() {
+        sheet.says("1 the first byte with which no ROOM goes on");
+        String[] plain = {"lamp 2 2", "door e at 0 0 blows 3 reach 6", "open d", "heir h at 1 2 tall 9", "bubble b at 1 2 film 99 size 9", "breath 100",
+            "thins 1 + 2 * 3", "bursts film < 2 and size > 1", "hue 9"};
+        for (String statement : plain) {
+            String ahead = R + "door d at 0 0 blows 0 reach 1;";
+            sheet.good(3, ahead + statement + ";");
+            String[] parts = statement.split(" ");
+            StringBuilder told = new StringBuilder(ahead);
+            for (int k = 0; k < parts.length; k++) {
+                boolean whole = parts[0].equals("thins") && k > 1 && k % 2 == 0 || parts[0].equals("bursts") && k == 4;
+                if (!whole) {
+                    sheet.faultAt(1, told.length(), told + ";");
+                    sheet.faultAt(1, told.length(), told + ";lamp 0 0;");
+                }
+                if (parts[k].matches("[a-z]+")) {
+                    sheet.faultAt(1, told.length(), told + String.join(" ", java.util.Arrays.copyOfRange(parts, k + 1, parts.length)) + ";");
+                }
+                told.append(parts[k]).append(' ');
+            }
+        }
     }
 
     /** The ROOM cut behind each of its words, numbers and signs, and behind a blank that follows. */

@@ -169,6 +169,10 @@ final class EdgesOfForesight {
         sheet.parts("behind 20", what -> x.shine(20, what), 2, 4, 60);
         sheet.parts("behind 21", what -> x.shine(21, what));
         sheet.parts("behind 0", what -> x.shine(0, what));
+        sheet.parts("behind 1 again", what -> x.shine(1, what), 2, 4, 3);
+        SoapDeeds owned = sheet.in("room 3 by 5;heir h at 0 0 tall 0;bubble p at 0 0 film 1 size 1;");
+        sheet.due("a STAND ahead of it", owned.stand(0, 1, 2), 1);
+        sheet.parts("no RENT", what -> owned.shine(1, what), 0, 0, 0);
         SoapDeeds late = sheet.in("room 3 by 5;bubble p at 2 4 film 50 size 1;hue if(second=19,1,0);");
         sheet.parts("behind 19", what -> late.shine(19, what), 0, 0, 0);
         sheet.parts("behind 20", what -> late.shine(20, what), 2, 4, 1);
@@ -325,6 +329,21 @@ final class EdgesOfForesight {
                 Sheet.felt(x, 0, 0, 1, 1, n, 0, 1, 1);
                 sheet.due("the last of two", x.from(0, NONE), second + n <= 999 ? 1 : 0);
             }
+        }
+        // Rows of an earlier feel() count no more.
+        for (int second : new int[] {970, 999}) {
+            SoapDeeds x = sheet.inAt(second, text);
+            Sheet.felt(x, 0, 0, 1, 1, 30, 0, 1, 1, 30, 0, 1, 1);
+            sheet.due("beyond 999", x.from(0, NONE), 0);
+            Sheet.felt(x, 0, 0, 1, 1);
+            sheet.due("no more of it", x.from(0, NONE), 1);
+            Sheet.felt(x, 0, 0, 1, 1, 30, 0, 1, 1);
+            Sheet.room(x, text);
+            int[] image = Sheet.image(x);
+            image[0] = second / 256;
+            image[1] = second % 256;
+            sheet.due("on()", Sheet.on(x, image), true);
+            sheet.due("nor in a new ROOM", x.from(0, NONE), 9);
         }
         SoapDeeds gone = sheet.inAt(999, "room 3 by 3;bubble p at 0 0 film 1 size 1;");
         Sheet.felt(gone, 1, 0, 255, 255);

@@ -159,6 +159,28 @@ final class EdgesOfImages {
         sheet.due("KEPT from then on", y.has(9), x.has(9));
         sheet.due("the ROOM's rules stay", y.door(0, 3), 1);
         taken("the first image", first());
+        smallerRoom();
+    }
+
+    /** An image of a ROOM with fewer of each leaves nothing of one with more. */
+    private void smallerRoom() {
+        SoapDeeds x = sheet.in(ROOM);
+        int[] large = with(first(), DEED, 0, 3, 0);
+        System.arraycopy(new int[] {GONE, GONE, 0, 0, 0}, 0, large, BUBBLE, 5);
+        int[] all = with(large, BUBBLE + 10, 1, 3, 9, 3, 4);
+        sheet.due("on() of the larger", Sheet.on(x, all), true);
+        Sheet.room(x, "room 3 by 3;heir h at 0 0 tall 0;bubble p at 0 0 film 1 size 1;");
+        sheet.due("on() of the smaller", Sheet.on(x, 0, 7, GONE, GONE, 1, 1, 2, 2, 5, 6, 1, GONE, 0, 8, 0), true);
+        sheet.parts("has", x::has, 3, 3, 0, 1, 1, 7, 1, 0, 0, 0, 0, 0, 1);
+        sheet.parts("the HEIR", what -> x.heir(0, what), 1, 1, 0, 0, 0);
+        sheet.parts("the BUBBLE", what -> x.bubble(0, what), 2, 2, 5, 6, 1);
+        sheet.parts("the DEED", what -> x.deed(0, what), NONE, 0, 8);
+        sheet.due("its DEEDS", x.stand(0, 5, 2), 1);
+        sheet.due("the RENT of all", x.shine(1, 2), 8);
+        sheet.due("on() with all owned", Sheet.on(x, 0, 7, GONE, GONE, 1, 1, GONE, GONE, 0, 0, 0, 0, 0, 8, 0), true);
+        sheet.due("one DEED", x.heir(0, 3), 1);
+        sheet.due("its RENT", x.heir(0, 4), 8);
+        sheet.due("none floats", x.has(6), 0);
     }
 
     private void noSuchImage() {
@@ -228,6 +250,12 @@ final class EdgesOfImages {
         for (int flag : new int[] {2, 3, 128, 254, 255}) {
             refused("a flag of " + flag, with(image, DOOR, flag));
         }
+        // Whatever the text says of it at first.
+        SoapDeeds open = sheet.in("room 3 by 3;door d at 0 0 blows 0 reach 1;open d;");
+        sheet.due("a flag of 0", Sheet.on(open, 0, 0, 255, 255, 0, 0), true);
+        sheet.due("shut", open.door(0, 4), 0);
+        sheet.due("a flag of 1", Sheet.on(open, 0, 0, 255, 255, 1, 0), true);
+        sheet.due("open", open.door(0, 4), 1);
         SoapDeeds six = sheet.in("room 3 by 3;door a at 0 0 blows 0 reach 1;door b at 0 0 blows 0 reach 1;door c at 0 0 blows 0 reach 1;"
             + "door d at 0 0 blows 0 reach 1;door e at 0 0 blows 0 reach 1;door f at 0 0 blows 0 reach 1;");
         for (int door = 0; door < 6; door++) {

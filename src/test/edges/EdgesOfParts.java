@@ -20,6 +20,8 @@ final class EdgesOfParts {
         room();
         roomRefused();
         roomAgain();
+        roomAfterRoom();
+        longRooms();
         fault();
         has();
         letter();
@@ -224,6 +226,57 @@ final class EdgesOfParts {
         sheet.due("no thins", x.bubble(0, 2), 48);
         sheet.due("no hue", x.deed(0, 2), 8);
         sheet.due("no breath", x.chance(40), 0);
+    }
+
+    /** Texts of one object, with FAULTS or without: none leaves anything to the next one. */
+    private void roomAfterRoom() {
+        sheet.promise(4);
+        sheet.says("Without one all is as at first");
+        String full = "room 7 by 7;lamp 6 6;door a at 0 0 blows 1 reach 6;door b at 0 1 blows 1 reach 6;open b;open a;heir c at 0 0 tall 9;heir d at 6 6 tall 9;"
+            + "bubble e at 0 0 film 50 size 9;bubble f at 6 6 film 50 size 9;thins 7;bursts second=1;hue 9;breath 100;";
+        String plain = "room 3 by 3;lamp 0 0;bubble e at 0 0 film 50 size 1;door a at 1 1 blows 1 reach 1;";
+        SoapDeeds x = new SoapDeeds();
+        for (String ahead : new String[] {full, full.replace("breath 100;", ""), full + "#", full + "thins 1;", full + "heir a", full + "open a;"}) {
+            for (int times = 1; times <= 3; times++) {
+                Sheet.room(x, ahead);
+                sheet.due("no more than its own", Sheet.room(x, "room 3 by 3;" + "open b;"), NONE);
+                sheet.due("its FAULT", x.fault(0), 3);
+                sheet.due("the plain room()", Sheet.room(x, plain), 4);
+            }
+            sheet.parts("has", x::has, 3, 3, 1, 0, 1, 0, 1, 0, 0, 0, 0, 0, 1);
+            sheet.due("no open DOOR", x.door(0, 4), 0);
+            sheet.due("no bursts", x.seconds(2), 0);
+            sheet.due("no thins", x.bubble(0, 2), 48);
+            sheet.due("no hue", x.deed(0, 2), 8);
+            sheet.due("no breath", x.chance(40), 0);
+            x = new SoapDeeds();
+        }
+        // Each NAME, each rule and each CELL can be told again.
+        SoapDeeds y = new SoapDeeds();
+        for (int times = 1; times <= 4; times++) {
+            sheet.due("the same again", Sheet.room(y, full), 14);
+            sheet.due("with a FAULT", Sheet.room(y, full + "heir a"), NONE);
+            sheet.due("no lamp", Sheet.room(y, "room 3 by 3;"), 1);
+            sheet.due("no lamp", y.lamp(0), NONE);
+        }
+    }
+
+    /** A rule as long as the tape, told again and again to one object. */
+    private void longRooms() {
+        sheet.promise(4);
+        sheet.says("The tape (it goes) is THE ROOM");
+        String head = "room 3 by 3;bubble p at 0 0 film 99 size 1;thins 1";
+        String text = head + "+0".repeat((1600 - head.length() - 1) / 2) + ";";
+        SoapDeeds x = new SoapDeeds();
+        for (int times = 1; times <= 5; times++) {
+            sheet.due("room() " + times, Sheet.room(x, text), 3);
+            sheet.due("none bursts", x.seconds(3), 0);
+            sheet.due("film", x.bubble(0, 2), 96);
+        }
+        String min = head + "+min(0,1)".repeat((1600 - head.length() - 1) / 9) + ";";
+        SoapDeeds y = sheet.in(min);
+        y.seconds(40);
+        sheet.due("film", y.bubble(0, 2), 59);
     }
 
     private void fault() {

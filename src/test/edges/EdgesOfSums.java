@@ -204,6 +204,16 @@ final class EdgesOfSums {
             test(n + "<film", n < 50);
             test("film-" + n + "<0-0", 50 - n < 0);
         }
+        // Facts of all SIGNS beside each other, and beside all.
+        for (int n = 49; n <= 51; n++) {
+            test("not film<" + n, 50 >= n);
+            test("not film>" + n, 50 <= n);
+            test("film<" + (n + 1) + " and film>" + (n - 1) + " and film=" + n, n == 50);
+            test("film<" + n + " and all", n > 50);
+            test("all and film>" + n, n < 50);
+            test("film<" + n + " or film>" + n, n != 50);
+            test("not film<" + n + " and not film>" + n, n == 50);
+        }
         fault("bursts film^;");
         fault("bursts film<^;");
         fault("bursts film<^=1;");
