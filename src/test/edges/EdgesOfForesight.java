@@ -26,6 +26,10 @@ final class EdgesOfForesight {
         tells();
     }
 
+    private interface Call {
+        int answer(SoapDeeds x);
+    }
+
     private interface ByNumber {
         int answer(SoapDeeds x, int n);
     }
@@ -103,6 +107,14 @@ final class EdgesOfForesight {
         sheet.due("behind 40", late.owner(0, 40), 1);
         sheet.due("not yet behind 40", late.owner(1, 40), NONE);
         sheet.due("41 can't be", late.owner(1, 41), NONE);
+        SoapDeeds more = sheet.in("room 3 by 3;heir h at 2 0 tall 0;bubble p at 0 0 film 9 size 1;bubble q at 1 0 film 9 size 1;bubble r at 2 0 film 1 size 1;");
+        sheet.parts("more DEEDS than HEIRS", deed -> more.owner(deed, 1), NONE, NONE, 0);
+        sheet.parts("DOORS for them", deed -> more.doors(deed, 0, 1), NONE, NONE, 0);
+        sheet.parts("ODDS of them", deed -> more.odds(deed, 0), 0, 0, 400);
+        SoapDeeds fewer = sheet.in("room 3 by 3;heir h at 2 0 tall 0;heir k at 0 0 tall 0;bubble p at 0 0 film 1 size 1;");
+        sheet.parts("fewer DEEDS than HEIRS", deed -> fewer.owner(deed, 1), 1);
+        sheet.parts("DOORS for them", deed -> fewer.doors(deed, 1, 1), 0);
+        sheet.parts("ODDS of them", deed -> fewer.odds(deed, 1), 400);
         bounds("the owner behind", owned(), 0, 40, (a, n) -> owningFirst(a).owner(0, n));
         sheet.due("without a room", new SoapDeeds().owner(0, 0), NONE);
     }
@@ -135,8 +147,31 @@ final class EdgesOfForesight {
         sheet.due("behind 19", late.doors(0, 0, 19), NONE);
         sheet.due("behind 20", late.doors(0, 0, 20), 0);
         sheet.due("behind 21", late.doors(0, 0, 21), NONE);
+        behindDoors();
         bounds("DOORS behind", owned(), 0, 20, (a, n) -> owningFirst(a).doors(0, 0, n));
         sheet.due("without a room", new SoapDeeds().doors(0, 0, 0), NONE);
+    }
+
+    /** What is tried for DOORS leaves nothing to the calls behind it: d is shut for them. */
+    private void behindDoors() {
+        String text = "room 3 by 3;door d at 0 0 blows 1 reach 6;heir h at 0 0 tall 0;heir k at 2 2 tall 0;bubble p at 0 0 film 2 size 1;";
+        Call[] calls = {x -> x.later(0, 1, 0), x -> x.owner(0, 2), x -> x.goes(0), x -> x.stand(0, 2, 0), x -> x.shine(1, 0), x -> x.odds(0, 0),
+            x -> x.from(0, NONE), x -> x.tells(0, 1), x -> x.draught(0, 0), x -> x.seconds(1) + x.bubble(0, 0)};
+        int[] want = {0, 0, 1, 0, 0, 0, 9, 1, NONE, 0};
+        for (int k = 0; k < calls.length; k++) {
+            SoapDeeds x = sheet.in(text);
+            sheet.due("no set", x.doors(0, 1, 2), NONE);
+            sheet.due("call " + k + " behind doors()", calls[k].answer(x), want[k]);
+        }
+        SoapDeeds late = sheet.in(text);
+        late.seconds(1);
+        sheet.due("no set", late.doors(0, 1, 1), NONE);
+        sheet.due("ODDS behind doors()", late.odds(0, 0), 400);
+        SoapDeeds lamp = sheet.in(text.replace("film 2", "film 50"));
+        sheet.due("no set", lamp.doors(0, 1, 2), NONE);
+        sheet.due("SHINE behind doors()", lamp.shine(3, 2), 12);
+        sheet.due("no set", lamp.doors(0, 1, 2), NONE);
+        sheet.due("LAST behind doors()", lamp.lasts(0, 1), 2);
     }
 
     private void stand() {

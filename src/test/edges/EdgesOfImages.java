@@ -306,6 +306,9 @@ final class EdgesOfImages {
                 } else {
                     refused("a BUBBLE at " + where, bubbles);
                 }
+                if (!outside) {
+                    refused("nothing at " + where, with(bubbles, BUBBLE + 5 * bubble + 2, 0, 0, 0));
+                }
                 if (outside) {
                     int[] gone = with(bubbles, BUBBLE + 5 * bubble + 2, 0, 0, 0);
                     sheet.due("that float", taken("a BUBBLE that is GONE", gone).has(6), 2);

@@ -265,18 +265,19 @@ final class EdgesOfParts {
     private void longRooms() {
         sheet.promise(4);
         sheet.says("The tape (it goes) is THE ROOM");
-        String head = "room 3 by 3;bubble p at 0 0 film 99 size 1;thins 1";
-        String text = head + "+0".repeat((1600 - head.length() - 1) / 2) + ";";
+        String head = "room 3 by 3;bubble p at 0 0 film 99 size 1;thins 0";
+        // The last number is what thins: not one of them may be left out.
+        String text = head + "+0".repeat((1600 - head.length() - 3) / 2) + "+2;";
         SoapDeeds x = new SoapDeeds();
         for (int times = 1; times <= 5; times++) {
             sheet.due("room() " + times, Sheet.room(x, text), 3);
             sheet.due("none bursts", x.seconds(3), 0);
-            sheet.due("film", x.bubble(0, 2), 96);
+            sheet.due("film", x.bubble(0, 2), 93);
         }
-        String min = head + "+min(0,1)".repeat((1600 - head.length() - 1) / 9) + ";";
-        SoapDeeds y = sheet.in(min);
+        String least = head + "+min(0,1)".repeat((1600 - head.length() - 3) / 9) + "+2;";
+        SoapDeeds y = sheet.in(least);
         y.seconds(40);
-        sheet.due("film", y.bubble(0, 2), 59);
+        sheet.due("film", y.bubble(0, 2), 19);
     }
 
     private void fault() {
