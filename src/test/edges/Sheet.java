@@ -23,6 +23,14 @@ final class Sheet {
     private int wrong = 0;
 
     Sheet() throws IOException {
+        if (Files.exists(DOC)) {
+            readDocument();
+        } else {
+            System.out.println("without " + DOC + " the answers are tested, but not what is quoted");
+        }
+    }
+
+    private void readDocument() throws IOException {
         String doc = Files.readString(DOC, StandardCharsets.UTF_8).replaceAll("```[a-z]*", " ").replaceAll("\\s+", " ");
         keep("I", between(doc, " I. ", " II. "));
         keep("II", between(doc, " II. ", " III. "));
@@ -56,9 +64,9 @@ final class Sheet {
     void says(String sentence) {
         words = sentence;
         sentences++;
-        String text = sections.get(section);
+        String text = sections.getOrDefault(section, "");
         int at = text.indexOf(sentence);
-        if (at < 0) {
+        if (at < 0 && !sections.isEmpty()) {
             say("the document does not say this");
         }
         while (at >= 0) {
